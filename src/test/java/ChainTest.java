@@ -126,6 +126,14 @@ public final class ChainTest {
         x.put(0, 1);
         due.is("cross(3) when all are cold", x.cross(3), -3);
         due.is("MINUTE", x.count(3), 2);
+        OverByTheHand full = Due.river("y5;" + "p009999;".repeat(7), "i02;i13;i24;i35;i46;");
+        due.is("cross(1) by five", full.cross(1), 1);
+        due.is("cross(0) by five", full.cross(0), 2);
+        for (int p = 2; p < 7; p++) {
+            due.is("owes(0, " + p + ")", full.owes(0, p), 1);
+            due.is("WARMTH of " + p, full.person(p, 4), 95);
+        }
+        due.is("all HOURS", full.count(7), 10);
     }
 
     private static void cannotCross() {

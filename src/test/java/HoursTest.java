@@ -8,6 +8,7 @@ public final class HoursTest {
         strikeTwo();
         strikeThree();
         strikeInOrder();
+        strikeAmongSeven();
         manyHours();
         due.end();
     }
@@ -118,6 +119,23 @@ public final class HoursTest {
         due.is("owes(0, 1)", z.owes(0, 1), 1);
         due.is("owes(2, 0)", z.owes(2, 0), 1);
         due.is("owes(1, 2)", z.owes(1, 2), 0);
+    }
+
+    private static void strikeAmongSeven() {
+        OverByTheHand x = people(7);
+        owe(x, 4, 6, 1);
+        owe(x, 6, 5, 1);
+        owe(x, 5, 4, 1);
+        owe(x, 5, 6, 1);
+        owe(x, 6, 5, 2);
+        owe(x, 0, 6, 1);
+        due.is("owed(6)", x.owed(6), 0);
+        due.is("owed(5)", x.owed(5), 1);
+        due.is("owed(0)", x.owed(0), -1);
+        due.is("strike()", x.strike(), 2);
+        due.is("owes(6, 5)", x.owes(6, 5), 1);
+        due.is("owes(5, 4)", x.owes(5, 4), 0);
+        due.is("count(7)", x.count(7), 2);
     }
 
     private static void manyHours() {

@@ -50,16 +50,17 @@ public final class LettersTest {
 
     private static void statements() {
         OverByTheHand x = Due.river("p512399;p00987;p00004;");
+        due.is("PEOPLE", x.count(1), 3);
         due.is("WARMTH of two digits", x.person(0, 4), 99);
         due.is("WARMTH of one digit", x.person(2, 4), 4);
         int[] numbers = {5, 1, 2, 3, 99};
         for (int what = 0; what < numbers.length; what++) {
             due.is("person(0, " + what + ")", x.person(0, what), numbers[what]);
         }
-        due.is("y and d", Due.tell(x, "y5;d432;c0;c7;"), 4);
+        due.is("y and d", Due.tell(x, "y5;d439;c0;c7;"), 4);
         due.is("YARDS", x.count(0), 5);
         due.is("DEPTH", x.yard(4, 0), 3);
-        due.is("PULL", x.yard(4, 1), 2);
+        due.is("PULL", x.yard(4, 1), 9);
         due.is("COLD", x.count(2), 7);
         due.is("g twice is none", Due.tell(x, "g01;g10;g02;"), 3);
         due.is("GRUDGE", x.grudge(0, 1), 0);
@@ -70,9 +71,13 @@ public final class LettersTest {
         due.is("he goes on to another YARD", Due.tell(x, "i41;"), 1);
         due.is("where he was is nobody", x.yard(0, 2), -9);
         due.is("he is there", x.person(1, 8), 4);
+        Due.tell(x, "d057;");
         due.is("y takes all out", Due.tell(x, "y5;"), 1);
+        for (int k = 0; k < 5; k++) {
+            due.is("DEPTH of YARD " + k, x.yard(k, 0), 2);
+            due.is("PULL of YARD " + k, x.yard(k, 1), 2);
+        }
         due.is("in the water", x.count(4), 0);
-        due.is("DEPTH", x.yard(4, 0), 2);
         due.is("COLD stays", x.count(2), 7);
         due.is("a telling of 80 letters", Due.tell(x, "d000;".repeat(16)), 16);
         due.is("fewer YARDS", Due.tell(x, "i42;y1;"), 2);

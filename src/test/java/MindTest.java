@@ -129,6 +129,14 @@ public final class MindTest {
         due.is("nothing changed", x.yard(1, 2), 3);
         OverByTheHand cold = Due.river("y2;c9;p009999;p009999;p00999;g01;i00;i11;");
         due.is("change() that would not last a minute", cold.change(), -9);
+        OverByTheHand minute = Due.river("y2;c9;p009999;p009999;p009910;g01;i00;i11;");
+        due.is("change() that would last a minute", minute.change(), 2);
+        OverByTheHand first = Due.river("y2;c0;p009950;p009910;p009930;i01;i12;");
+        due.is("change() by the first of all", first.change(), 0);
+        OverByTheHand full = Due.river("y5;c0;" + "p009950;".repeat(4) + "p009910;p009960;p009970;", "i00;i11;i22;i33;i44;");
+        due.is("change() of five YARDS and seven", full.change(), 45);
+        full.quarrel(3, 5, 1);
+        due.is("change() of five YARDS and seven", full.change(), 46);
         OverByTheHand over = Due.river("y1;c0;p009910;p009920;p009930;i00;");
         over.cross(2);
         due.is("change() by who is not OVER", over.change(), 1);

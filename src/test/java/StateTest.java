@@ -128,6 +128,16 @@ public final class StateTest {
         due.is("HOURS stay", x.owes(0, 1), 1);
         due.is("MINUTE stays", x.count(3), 1);
         due.is("out() again", x.out(), 0);
+        OverByTheHand full = fullRiver();
+        full.cross(5);
+        full.cross(6);
+        due.is("out() of seven", full.out(), 7);
+        due.is("out() again", full.out(), 0);
+    }
+
+    /** Seven people, five of them in as many YARDS. */
+    private static OverByTheHand fullRiver() {
+        return Due.river("y5;" + "p009999;".repeat(7), "i00;i11;i22;i33;i44;");
     }
 
     private static void image() {
@@ -201,5 +211,13 @@ public final class StateTest {
             due.is("count(" + what + ")", x.count(what), -9);
         }
         due.is("which is no REFUSAL", x.count(12), 2);
+        OverByTheHand full = fullRiver();
+        for (int a = 0; a < 7; a++) {
+            for (int b = 0; b < a; b++) {
+                full.quarrel(a, b, 1);
+            }
+        }
+        due.is("all GRUDGES of seven", full.count(6), 21);
+        due.is("all of them in the water", full.count(4), 5);
     }
 }
