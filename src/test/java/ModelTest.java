@@ -176,7 +176,7 @@ public final class ModelTest {
             case 20: same("overs()", x.overs(), m.overs()); break;
             case 21: same("owes(" + a + ", " + b + ")", x.owes(a, b), m.owes(a, b)); break;
             case 22: same("owed(" + a + ")", x.owed(a), m.owed(a)); break;
-            case 23: if (below(4) == 0) { same("strike()", x.strike(), m.strike()); } break;
+            case 23: if (below(4) == 0) { oweSome(); same("strike()", x.strike(), m.strike()); } break;
             case 24: {
                 int people = below(10) == 0 ? dice.nextInt() : below(1 << m.count(1));
                 int v = below(2) == 0 ? -1 : a;
@@ -188,6 +188,20 @@ public final class ModelTest {
             case 27: { int n = some(61); int z = dice.nextInt(); same("seeds(" + n + ", " + z + ")", x.seeds(n, z), m.seeds(n, z)); break; }
             case 28: if (below(2) == 0) { same("image()", x.image(), m.image()); } else if (below(2) == 0) { same("restore()", x.restore(), m.restore()); } break;
             default: { int v = below(19) - 1; same("count(" + v + ")", x.count(v), m.count(v)); break; }
+        }
+    }
+
+    /** Goes over by one in a river of one yard, time and again, so that there are rings. */
+    private void oweSome() {
+        same("out()", x.out(), m.out());
+        tell("y1;c0;");
+        int n = m.count(1) < 2 ? 0 : below(16);
+        for (int i = 0; i < n && calls < CALLS - 4; i++) {
+            int a = below(Math.min(4, m.count(1)));
+            int b = below(Math.min(4, m.count(1)));
+            same("put(0, " + a + ")", x.put(0, a), m.put(0, a));
+            same("cross(" + b + ")", x.cross(b), m.cross(b));
+            same("out()", x.out(), m.out());
         }
     }
 
