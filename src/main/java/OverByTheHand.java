@@ -33,8 +33,8 @@ public final class OverByTheHand {
     private static final int REFUSED_STATE = -3;
     private static final int REFUSED_BELOW = -4;
     private static final int REFUSED_ROOM = -6;
-    /** owed() may be below 0 by itself, so that its refusals lie this much lower. */
-    private static final int OWED_REFUSED = -1000000000;
+    /** owed() may be below 0 by itself, so that it answers this less the refusal: above all that can be owed. */
+    private static final int OWED_REFUSED = 1000000000;
 
     private static final int FAULT_OF_LETTERS = -1000;
     private static final int FAULT_OF_STATEMENT = -2000;
@@ -265,7 +265,7 @@ public final class OverByTheHand {
 
     public int owed(int person) {
         if (!now.isPerson(person)) {
-            return OWED_REFUSED + refuse(REFUSED_NOBODY);
+            return OWED_REFUSED - refuse(REFUSED_NOBODY);
         }
         int sum = 0;
         for (int other = 0; other < now.people; other++) {

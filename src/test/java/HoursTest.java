@@ -1,10 +1,11 @@
 /** Promises 22 to 24: owes, owed, strike. */
 public final class HoursTest {
     private static final Due due = new Due("HoursTest");
-    private static final int OWED_REFUSED = -1000000001;
+    private static final int OWED_REFUSED = 1000000001;
 
     public static void main(String[] args) {
         owes();
+        owedRefused();
         strikeTwo();
         strikeThree();
         strikeInOrder();
@@ -46,6 +47,19 @@ public final class HoursTest {
         due.is("owed(-1)", x.owed(-1), OWED_REFUSED);
         due.is("count(11)", x.count(11), 5);
         due.is("count(7)", x.count(7), 4);
+    }
+
+    private static void owedRefused() {
+        OverByTheHand x = new OverByTheHand();
+        int[] nobody = {0, -1, 6, 7, -9, Integer.MAX_VALUE, Integer.MIN_VALUE};
+        for (int person : nobody) {
+            due.is("owed(" + person + ") of no PEOPLE", x.owed(person), OWED_REFUSED);
+        }
+        due.is("count(11)", x.count(11), nobody.length);
+        OverByTheHand one = people(1);
+        due.is("owed(0) of one", one.owed(0), 0);
+        due.is("owed(1) of one", one.owed(1), OWED_REFUSED);
+        due.is("count(11)", one.count(11), 1);
     }
 
     private static void strikeTwo() {

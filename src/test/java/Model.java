@@ -492,7 +492,7 @@ final class Model {
 
     int owed(int person) {
         if (noOne(person)) {
-            return no(-1) - 1000000000;
+            return 1000000000 - no(-1);
         }
         int sum = 0;
         for (int p = 0; p < 7; p++) {

@@ -115,7 +115,7 @@ public final class RefusalsTest {
             refused(x, "worth(" + wrong + ", 0)", -1, () -> x.worth(wrong, 0));
             refused(x, "owes(0, " + wrong + ")", -1, () -> x.owes(0, wrong));
             refused(x, "owes(" + wrong + ", 0)", -1, () -> x.owes(wrong, 0));
-            refused(x, "owed(" + wrong + ")", -1, -1000000001, () -> x.owed(wrong));
+            refused(x, "owed(" + wrong + ")", -1, 1000000001, () -> x.owed(wrong));
         }
         refused(x, "worth(3, 3)", -1, () -> x.worth(3, 3));
         refused(x, "worth(1, 2)", -3, () -> x.worth(1, 2));
