@@ -59,26 +59,46 @@ final class Due {
         for (int what = 0; what <= 9; what++) {
             seen.append(x.count(what)).append(' ');
         }
-        for (int k = 0; k < x.count(0); k++) {
+        int yards = x.count(0);
+        int people = x.count(1);
+        for (int k = 0; k < yards; k++) {
             for (int what = 0; what < 3; what++) {
                 seen.append(x.yard(k, what)).append(' ');
             }
         }
-        for (int p = 0; p < x.count(1); p++) {
-            lookAtPerson(x, p, seen);
+        for (int p = 0; p < people; p++) {
+            lookAtPerson(x, p, people, seen);
         }
         return seen.toString();
     }
 
-    private static void lookAtPerson(OverByTheHand x, int p, StringBuilder seen) {
+    private static void lookAtPerson(OverByTheHand x, int p, int people, StringBuilder seen) {
         seen.append("| ");
         for (int what = 0; what < 9; what++) {
             seen.append(x.person(p, what)).append(' ');
         }
-        for (int q = 0; q < x.count(1); q++) {
+        for (int q = 0; q < people; q++) {
             if (q != p) {
                 seen.append(x.grudge(p, q)).append(':').append(x.owes(p, q)).append(' ');
             }
         }
+    }
+
+    /** Looks at what only shows itself by being used up, too: the ROW, the letters, the image. */
+    static String lookAtAll(OverByTheHand x) {
+        StringBuilder seen = new StringBuilder(look(x));
+        seen.append("\n  ROW ").append(x.judge());
+        seen.append("\n  letters ").append(x.river()).append(": ").append(look(x));
+        seen.append("\n  image ").append(x.restore()).append(": ").append(look(x));
+        return seen.toString();
+    }
+
+    /** How many REFUSALS there were: -1 in place 1, and so on. */
+    static int[] refusals(OverByTheHand x) {
+        int[] counts = new int[7];
+        for (int i = 1; i <= 6; i++) {
+            counts[i] = x.count(10 + i);
+        }
+        return counts;
     }
 }
