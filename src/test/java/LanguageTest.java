@@ -4,6 +4,8 @@ import java.lang.reflect.Method;
 import java.lang.reflect.Modifier;
 import java.nio.file.Files;
 import java.nio.file.Path;
+import java.util.HashMap;
+import java.util.Map;
 import java.util.Set;
 import java.util.TreeSet;
 import java.util.regex.Matcher;
@@ -30,7 +32,11 @@ public final class LanguageTest {
             due.is("how often the source has " + word, times(whole, code), 0);
         }
         due.is("signs beyond 127", (int) code.chars().filter(c -> c > 127).count(), 0);
-        lengths(code);
+        library(code);
+        Map<String, String> bodies = bodies(code);
+        lengths(bodies);
+        objects(bodies);
+        depth(bodies);
         due.end();
     }
 
@@ -96,18 +102,68 @@ public final class LanguageTest {
         return n;
     }
 
-    /** Methods are known by where they stand: a head line that ends with "{", and the "}" as far from the left. */
-    private static void lengths(String code) {
+    /** Rule 4: "The library: only what stands here." */
+    private static void library(String code) {
+        Set<String> allowed = Set.of("Math.max", "Math.min", "Integer.bitCount", "Integer.MAX_VALUE", "System.arraycopy");
+        Matcher m = Pattern.compile("\\b[A-Z][a-z]\\w*\\.\\w+").matcher(code);
+        while (m.find()) {
+            due.is("whether the library has " + m.group(), allowed.contains(m.group()) ? 1 : 0, 1);
+        }
+    }
+
+    /**
+     * Each method with its lines; those of one name are put together. They are known by where they stand: a head line
+     * that ends with "{", and the "}" as far from the left.
+     */
+    private static Map<String, String> bodies(String code) {
+        Map<String, String> bodies = new HashMap<>();
+        Pattern head = Pattern.compile("( +)(?:private|public) (?:[\\w\\[\\]]+ )*(\\w+)\\(.*\\) \\{");
         String[] lines = code.split("\n");
         for (int i = 0; i < lines.length; i++) {
-            if (lines[i].matches(" +(private|public) .*\\) \\{")) {
-                String end = lines[i].replaceAll("\\S.*", "") + "}";
-                int j = i;
-                while (j < lines.length && !lines[j].equals(end)) {
-                    j++;
+            Matcher m = head.matcher(lines[i]);
+            if (m.matches()) {
+                StringBuilder body = new StringBuilder();
+                for (int j = i + 1; j < lines.length && !lines[j].equals(m.group(1) + "}"); j++) {
+                    body.append(lines[j]).append('\n');
                 }
-                due.is("whether it has sixty lines at most:" + lines[i], j - i < 60 ? 1 : 0, 1);
+                bodies.merge(m.group(2), body.toString(), String::concat);
             }
         }
+        return bodies;
+    }
+
+    /** Rule 11: "Methods stay short (some sixty lines)". */
+    private static void lengths(Map<String, String> bodies) {
+        due.is("whether the methods were found", bodies.size() > 60 ? 1 : 0, 1);
+        for (String name : bodies.keySet()) {
+            due.is("whether it has sixty lines at most: " + name, times("\n", bodies.get(name)) < 60 ? 1 : 0, 1);
+        }
+    }
+
+    /** All calls of a run live in one room: only a constructor makes objects, and rows are used again. */
+    private static void objects(Map<String, String> bodies) {
+        for (String name : bodies.keySet()) {
+            int made = Character.isUpperCase(name.charAt(0)) ? 0 : times("\\bnew\\b|\\.clone\\(|\\.copyOf", bodies.get(name));
+            due.is("what is made in " + name, made, 0);
+        }
+    }
+
+    /** Rule 11: "calls that are no recursion go at most eight deep", those of the library, too. */
+    private static void depth(Map<String, String> bodies) {
+        for (String call : FACE.replaceAll("[0-9]", "").split(" ")) {
+            int deep = depthOf(call, bodies, 0);
+            due.is("whether " + call + " goes eight deep at most", deep >= 1 && deep <= 8 ? 1 : 0, 1);
+        }
+    }
+
+    private static int depthOf(String name, Map<String, String> bodies, int above) {
+        String body = bodies.get(name);
+        int deepest = 1;
+        Matcher m = Pattern.compile("(\\w+)\\(").matcher(body == null ? "" : body);
+        while (m.find() && above < 20) {
+            boolean isCall = !Set.of("if", "for", "while", "switch", name).contains(m.group(1));
+            deepest = Math.max(deepest, isCall ? 1 + depthOf(m.group(1), bodies, above + 1) : 1);
+        }
+        return deepest;
     }
 }
